@@ -18,6 +18,7 @@ public final class DiodeLink {
     private static final int SLOTS = 32;
     private static final int PACKET_SIZE = 24;
     private static final int HASHED_SIZE = 16;
+    private static final int HASH_SIZE = 8;
     private static final int AT_LIFE = 0;
     private static final int AT_FOLDER = 1;
     private static final int AT_VERSION = 2;
@@ -178,7 +179,7 @@ public final class DiodeLink {
         if (i == -1) {
             return size;
         }
-        return data ? shown.item(k + 1).at(i) : shown.nameSign(k, i);
+        return data ? shown.item(k + 1).at(i) : shown.item(0).at(shown.namePlace(k) + i);
     }
 
     public long journal(int k, int what) throws IllegalArgumentException, IndexOutOfBoundsException {
@@ -514,7 +515,7 @@ public final class DiodeLink {
                 manifest.append(folder.name(k).size(), 1);
                 manifest.appendAll(folder.name(k));
                 manifest.append(content.size(), 1);
-                manifest.append(content.hash(content.size()), 8);
+                manifest.append(content.hash(content.size()), HASH_SIZE);
             }
         }
 
@@ -540,7 +541,10 @@ public final class DiodeLink {
                         slot.clear();
                         slot.append(life, 1);
                         slot.append(folder, 1);
-                        appendPacket(slot, item, block, left);
+                        slot.append(number, 2);
+                        appendPlace(slot, item, block, left);
+                        slot.append(sum(item, block, left), PIECE_SIZE);
+                        slot.append(slot.hash(HASHED_SIZE), HASH_SIZE);
                         return;
                     }
                     left -= here;
@@ -548,14 +552,11 @@ public final class DiodeLink {
             }
         }
 
-        private void appendPacket(Bytes slot, int item, int block, int j) {
-            slot.append(number, 2);
+        private void appendPlace(Bytes slot, int item, int block, int j) {
             slot.append(item, 1);
             slot.append(block, 1);
             slot.append(j, 1);
             slot.append(items[item].size(), 1);
-            slot.append(sum(item, block, j), 8);
-            slot.append(slot.hash(HASHED_SIZE), 8);
         }
 
         private long sum(int item, int block, int j) {
@@ -766,8 +767,9 @@ public final class DiodeLink {
             return nameSizes[k];
         }
 
-        int nameSign(int k, int i) {
-            return items[0].at(nameAt[k] + i);
+        /** Where a name begins in item 0. */
+        int namePlace(int k) {
+            return nameAt[k];
         }
 
         int fileSize(int k) {
@@ -787,8 +789,8 @@ public final class DiodeLink {
                 nameSizes[k] = manifest.at(place);
                 place += 1 + nameSizes[k];
                 fileSizes[k] = manifest.at(place);
-                fileHashes[k] = manifest.number(place + 1, 8);
-                place += 1 + 8;
+                fileHashes[k] = manifest.number(place + 1, HASH_SIZE);
+                place += 1 + HASH_SIZE;
                 if (!manifest.isName(nameAt[k], nameSizes[k]) || fileSizes[k] > DATA_LIMIT || !isBehindLast(k)) {
                     return false;
                 }
@@ -1098,7 +1100,7 @@ public final class DiodeLink {
         }
 
         private int whyDropped(Bytes packet) {
-            if (packet.hash(HASHED_SIZE) != packet.number(HASHED_SIZE, 8)) {
+            if (packet.hash(HASHED_SIZE) != packet.number(HASHED_SIZE, HASH_SIZE)) {
                 return 1;
             }
             noteLife(packet.at(AT_LIFE));
@@ -1371,8 +1373,10 @@ public final class DiodeLink {
         }
 
         private boolean hasBadSign(Version version, int k) {
-            for (int i = 0; i < version.nameSize(k); i++) {
-                if (signs[version.nameSign(k, i) & VALUES - 1]) {
+            Bytes manifest = version.item(0);
+            int end = version.namePlace(k) + version.nameSize(k);
+            for (int i = version.namePlace(k); i < end; i++) {
+                if (signs[manifest.at(i) & VALUES - 1]) {
                     return true;
                 }
             }
@@ -1447,7 +1451,7 @@ public final class DiodeLink {
 
         private long dueLink(long before, int k) {
             linked.clear();
-            linked.append(before, 8);
+            linked.append(before, HASH_SIZE);
             linked.append(number(k, 0), 1);
             linked.append(number(k, 1), 2);
             linked.append(number(k, 2), 1);

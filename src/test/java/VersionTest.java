@@ -16,6 +16,8 @@ public final class VersionTest {
         copiesGoOn();
         theSameVersionIsNoOther();
         forgottenOnesHoldNothing();
+        sizesCountBesideHashes();
+        newVersionsBeginEmpty();
         haveRefuses();
         DUE.end();
     }
@@ -219,6 +221,42 @@ public final class VersionTest {
         DUE.is("its own files stay", w.link.file(0, 0, 0, true), 'o');
         w.hearItem(0, 6, 0, Wire.manifest(6));
         DUE.is("one that was whole is forgotten", have(w, 2), 0);
+    }
+
+    /** Manifests with the hash of a file, but another size. */
+    private static void sizesCountBesideHashes() {
+        Wire w = Wire.withSlot();
+        w.hearVersion(0, 3, "a", ONE);
+        byte[] longer = with(Wire.manifest(4, "a", ONE), 5, 5);
+        w.hearItem(0, 4, 0, longer);
+        DUE.is("the manifest is good", w.link.rank(0, 4, 0, 0), 8);
+        DUE.is("the file of the other version has another size", w.link.rank(0, 4, 1, 0), 0);
+        DUE.is("the file itself", w.hearItem(0, 4, 1, ONE), 0);
+        DUE.is("is forgotten", w.link.rank(0, 4, 1, 0), 0);
+        DUE.is("partly", have(w, 4), 1);
+    }
+
+    /** What the least one had is not there for the one that comes instead of it. */
+    private static void newVersionsBeginEmpty() {
+        Wire w = Wire.withSlot();
+        w.hearVersion(0, 1, "a", ONE, "b", TWO);
+        w.hearItem(0, 2, 0, Wire.manifest(2, "c", ONE));
+        w.hearItem(0, 3, 0, Wire.manifest(3));
+        w.hearItem(0, 4, 0, Wire.manifest(4));
+        w.hear(Wire.packetOf(1, 0, 5, 0, Wire.manifest(5, "a", TWO), 0, 0));
+        DUE.is("the fifth one", have(w, 5), 1);
+        DUE.is("what it has of item 1", w.link.rank(0, 5, 1, 0), 0);
+        w.hearItem(0, 5, 2, LONG);
+        DUE.is("a file before the manifest", w.link.rank(0, 5, 2, 0), 8);
+        DUE.is("what it has of item 1 then", w.link.rank(0, 5, 1, 0), 0);
+        w.hearItem(0, 5, 1, TWO);
+        DUE.is("its own file", w.link.rank(0, 5, 1, 0), 8);
+        DUE.is("without a manifest", have(w, 5), 1);
+        w.hearItem(0, 5, 0, Wire.manifest(5, "a", TWO));
+        DUE.is("with it", have(w, 5), 2);
+        DUE.is("what it does not have", w.link.rank(0, 5, 2, 0), 0);
+        w.hearItem(0, 5, 2, TWO);
+        DUE.is("and what comes of it later", w.link.rank(0, 5, 2, 0), 0);
     }
 
     private static void haveRefuses() {
