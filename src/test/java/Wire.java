@@ -9,6 +9,7 @@ import java.nio.charset.StandardCharsets;
 final class Wire {
     final DiodeLink link;
     private int calls = 0;
+    private byte[] left = null;
 
     Wire() {
         this.link = new DiodeLink();
@@ -114,9 +115,17 @@ final class Wire {
         return now.putLong(link.packet(slot, 0)).putLong(link.packet(slot, 8)).putLong(link.packet(slot, 16)).array();
     }
 
+    /** What slot 0 has: calls are scarce, so it is read anew only when its hash is not the one left there. */
+    private byte[] slotZero() {
+        calls++;
+        long hash = link.packet(0, 16);
+        return left != null && ByteBuffer.wrap(left).getLong(16) == hash ? left : read(0);
+    }
+
     /** Alters slot 0 into a packet, and hears it. */
     int hear(byte[] packet) {
-        byte[] now = read(0);
+        byte[] now = slotZero();
+        left = packet.clone();
         for (int i = 0; i < 24; i++) {
             if (now[i] != packet[i]) {
                 calls++;
@@ -144,6 +153,21 @@ final class Wire {
         for (int k = 0; k < namesAndBytes.length; k += 2) {
             hearItem(folder, version, k / 2 + 1, (byte[]) namesAndBytes[k + 1]);
         }
+    }
+
+    /** All that can be asked of some versions of a folder, of the rows and of the journal. */
+    String told(int folder, int... versions) {
+        StringBuilder told = new StringBuilder();
+        for (int version : versions) {
+            told.append(" v").append(version).append(':').append(link.have(folder, version)).append('/');
+            for (int item = 0; item < 7; item++) {
+                told.append(link.rank(folder, version, item, 0)).append(link.rank(folder, version, item, 1));
+            }
+            calls += 15;
+        }
+        calls += 4;
+        return told + " rows " + link.count(1) + " released " + link.released(folder) + " entries "
+            + link.journal(-1, 0) + " sound " + link.isSound();
     }
 
     void feed(boolean data, byte[] bytes) {
