@@ -60,7 +60,8 @@ public final class HearTest {
 
     private static void hearRows(Wire w, int folder, int version, int item, int rows) {
         for (int j = 0; j < rows; j++) {
-            DUE.is("a row of " + folder + " " + version + " " + item, w.hear(piece(1, folder, version, item, LONG, j)), 0);
+            int answer = w.hear(piece(1, folder, version, item, LONG, j));
+            DUE.is("a row of " + folder + " " + version + " " + item, answer, 0);
         }
     }
 

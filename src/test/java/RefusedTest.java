@@ -83,8 +83,10 @@ public final class RefusedTest {
     private static void refuseOfReceiver(DiodeLink x) {
         int[][] rules = {{-1, 0}, {4, 0}, {0, -1}, {0, 97}, {1, -1}, {1, 7}, {2, -1}, {2, 256}, {3, 256}};
         for (int[] a : rules) {
-            DUE.refusesArgument("rule(" + a[0] + ", " + a[1] + ", true)", Due.answering(() -> x.rule(a[0], a[1], true)));
-            DUE.refusesArgument("rule(" + a[0] + ", " + a[1] + ", false)", Due.answering(() -> x.rule(a[0], a[1], false)));
+            for (boolean on : new boolean[] {true, false}) {
+                DUE.refusesArgument("rule(" + a[0] + ", " + a[1] + ", " + on + ")",
+                    Due.answering(() -> x.rule(a[0], a[1], on)));
+            }
         }
         for (int folder : NO_FOLDERS) {
             DUE.refusesArgument("have(" + folder + ", 1)", () -> x.have(folder, 1));

@@ -279,7 +279,8 @@ public final class SendTest {
 
     private static void masksOfNothingAreAll() {
         DUE.says("all n bits when these are 0");
-        // Version 1, item 1, block 0 of 3 pieces, j 4: (40503 * 5 * 11 + 9973 + 977 + 31) / 256 is 8744, which ends in 000.
+        // Version 1, item 1, block 0 of 3 pieces, j 4: (40503 * 5 * 11 + 9973 + 977 + 31) / 256 is 8744, of which
+        // the lowest 3 bits are 0.
         byte[] bytes = mixed(24);
         Wire w = atFile(bytes);
         for (int j = 0; j < 4; j++) {

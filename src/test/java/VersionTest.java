@@ -214,8 +214,9 @@ public final class VersionTest {
         DUE.is("block 1 is forgotten", w.link.rank(0, 3, 0, 1), 0);
         DUE.is("files stay", w.link.rank(0, 3, 1, 0), 8);
         DUE.is("rows of files stay", w.link.rank(0, 3, 2, 0), 1);
-        DUE.is("a packet of another size comes", w.hear(Wire.packetOf(1, 0, 3, 0, Wire.manifest(3, "a", ONE), 0, 0)), 0);
-        w.hearItem(0, 3, 0, Wire.manifest(3, "a", ONE));
+        byte[] good = Wire.manifest(3, "a", ONE);
+        DUE.is("a packet of another size comes", w.hear(Wire.packetOf(1, 0, 3, 0, good, 0, 0)), 0);
+        w.hearItem(0, 3, 0, good);
         DUE.is("a good one", have(w, 3), 2);
     }
 
