@@ -95,7 +95,8 @@ public final class DiodeLink {
     }
 
     public int send() throws IllegalStateException {
-        int slot = packetsSent % SLOTS;
+        // Not %: no call may throw by itself, not even when the count has gone round.
+        int slot = Math.floorMod(packetsSent, SLOTS);
         if (!sender.fillNext(slots[slot])) {
             throw new IllegalStateException("no version at all");
         }
@@ -577,6 +578,8 @@ public final class DiodeLink {
         private static final int NEW = 0;
         private static final int OLD = 1;
         private static final int LAST_LIFE = 255;
+        private static final int TURNS = 4;
+        private static final int OLD_TURN = 3;
 
         private final Folder[] folders = new Folder[FOLDERS];
         private final int[] nextPlaces = new int[2];
@@ -616,14 +619,14 @@ public final class DiodeLink {
 
         /** Fills a slot with the next packet; false when there is no version at all. */
         boolean fillNext(Bytes slot) {
-            int sort = turn % 4 == 3 && packetsOf(OLD) > 0 ? OLD : NEW;
+            int sort = turn == OLD_TURN && packetsOf(OLD) > 0 ? OLD : NEW;
             int all = packetsOf(sort);
             if (all == 0) {
                 return false;
             }
             fillFrom(slot, sort, nextPlaces[sort]);
             nextPlaces[sort] = (nextPlaces[sort] + 1) % all;
-            turn++;
+            turn = (turn + 1) % TURNS;
             return true;
         }
 
